@@ -539,11 +539,11 @@ public final class SomeAreNoneIs {
 
         /** Of a universal: what all x are by it. Of another: what some x are by it. */
         static int target(int code) {
-            return predicate(code) ^ form(code) & 1;
+            return code % 24 ^ code / 576 & 1;
         }
 
         static boolean isUniversal(int code) {
-            return form(code) < 2;
+            return code < CODES / 2;
         }
 
         static boolean isOf(int sort, int term) {
@@ -858,8 +858,10 @@ public final class SomeAreNoneIs {
 
         void addLiving(int kinds) {
             for (int kind = 0; kind < KINDS; kind++) {
-                if ((kinds >> kind & 1) != 0) {
-                    require(2 * kind, 2 * kind);
+                if ((kinds >> kind & 1) != 0 && held < MOST_HELD) {
+                    needX[held] = 2 * kind;
+                    needY[held] = 2 * kind;
+                    held++;
                 }
             }
         }
@@ -874,6 +876,9 @@ public final class SomeAreNoneIs {
 
         /** What is brought stays closed under bringing, so that no later search is needed. */
         void imply(int x, int y) {
+            if ((brings[x] >> y & 1) != 0) {
+                return;
+            }
             for (int t = 0; t < TERMS; t++) {
                 if ((brings[t] >> x & 1) != 0) {
                     brings[t] |= brings[y];
@@ -884,40 +889,38 @@ public final class SomeAreNoneIs {
                     brings[t] |= brings[x ^ 1];
                 }
             }
-            for (int t = 0; t < TERMS; t += 2) {
-                if ((brings[t] >> (t + 1) & 1) != 0 && (brings[t + 1] >> t & 1) != 0) {
-                    barren = true;
-                }
+            // Where some term and its opposite have come to bring one another, x and its opposite have too.
+            if ((brings[x] >> (x ^ 1) & 1) != 0 && (brings[x ^ 1] >> x & 1) != 0) {
+                barren = true;
             }
         }
 
-        boolean isSound(int terms) {
+        boolean canBe(int x, int y) {
+            int terms = brings[x] | brings[y];
             return !barren && (terms & terms >>> 1 & EVEN_TERMS) == 0;
         }
 
-        boolean canBe(int x, int y) {
-            return isSound(brings[x] | brings[y]);
-        }
-
-        /** Whether one sort can do for two needs. */
+        /** Whether one sort can do for two needs: as soon as no two of their terms hinder one another. */
         boolean canShare(int i, int j) {
-            return isSound(brings[needX[i]] | brings[needY[i]] | brings[needX[j]] | brings[needY[j]]);
+            return canBe(needX[i], needX[j]) && canBe(needX[i], needY[j])
+                    && canBe(needY[i], needX[j]) && canBe(needY[i], needY[j]);
         }
 
         boolean consistent() {
             for (int i = 0; i < held; i++) {
-                if (!canBe(needX[i], needY[i])) {
+                int terms = brings[needX[i]] | brings[needY[i]];
+                if (barren || (terms & terms >>> 1 & EVEN_TERMS) != 0) {
                     return false;
                 }
             }
             return true;
         }
 
-        /** The needs among some (bits) that a sort does for. */
-        int metBy(int sort, int open) {
+        /** The needs (bits) that a sort does for. */
+        int metBy(int sort) {
             int bits = 0;
             for (int i = 0; i < held; i++) {
-                if ((open >> i & 1) != 0 && Codes.isOf(sort, needX[i]) && Codes.isOf(sort, needY[i])) {
+                if (Codes.isOf(sort, needX[i]) && Codes.isOf(sort, needY[i])) {
                     bits |= 1 << i;
                 }
             }
@@ -946,8 +949,14 @@ public final class SomeAreNoneIs {
             base.clear();
             base.addLiving(docket.living);
             for (int i = 0; i < docket.told; i++) {
-                if ((sayings >> i & 1) != 0) {
-                    base.add(docket.codes[i]);
+                int code = docket.codes[i];
+                if ((sayings >> i & 1) == 0) {
+                    continue;
+                }
+                if (Codes.isUniversal(code)) {
+                    base.imply(Codes.subject(code), Codes.target(code));
+                } else {
+                    base.require(Codes.subject(code), Codes.target(code));
                 }
             }
             baseSayings = sayings;
@@ -958,8 +967,13 @@ public final class SomeAreNoneIs {
         /** The prepared sayings with one more, if it is not NONE. */
         Theory against(int code) {
             trial.copyFrom(base);
-            if (code != NONE) {
-                trial.add(code);
+            if (code == NONE) {
+                return trial;
+            }
+            if (Codes.isUniversal(code)) {
+                trial.imply(Codes.subject(code), Codes.target(code));
+            } else {
+                trial.require(Codes.subject(code), Codes.target(code));
             }
             return trial;
         }
@@ -1075,16 +1089,26 @@ public final class SomeAreNoneIs {
             for (int t = 0; t < TERMS; t++) {
                 distances[t] = t == y ? 0 : TERMS + 1;
             }
-            for (int length = 1; length < TERMS; length++) {
+            boolean farther = true;
+            for (int length = 1; length < TERMS && farther; length++) {
+                farther = false;
                 for (int i = 0; i < docket.told; i++) {
-                    for (int t = 0; docket.isActive(i) && t < TERMS; t++) {
-                        int to = next(docket.codes[i], t);
-                        if (to != NONE && distances[to] == length - 1 && distances[t] > length) {
-                            distances[t] = length;
-                        }
+                    int code = docket.codes[i];
+                    if (docket.isActive(i) && Codes.isUniversal(code)) {
+                        farther |= reaches(Codes.subject(code), Codes.target(code), length);
+                        farther |= reaches(Codes.target(code) ^ 1, Codes.subject(code) ^ 1, length);
                     }
                 }
             }
+        }
+
+        /** Whether a term is new at this length because another was reached with one link less. */
+        private boolean reaches(int term, int to, int length) {
+            if (distances[to] != length - 1 || distances[term] <= length) {
+                return false;
+            }
+            distances[term] = length;
+            return true;
         }
     }
 
@@ -1126,35 +1150,54 @@ public final class SomeAreNoneIs {
             for (int more = 0; more <= SAYINGS && best == NO_RANK; more++) {
                 explore(forced, elements & ~forced, more);
             }
-            return best & 0xFFFF;
+            return best & (1 << SAYINGS) - 1;
         }
 
         /**
-         * Looks at each set of the chosen and of at most so many more of the open ones that may be
-         * enough. The chosen ones are grown as far as they stay too few: then each set that is
-         * enough has one of those that were left out.
+         * Looks at the sets of the chosen and of at most so many more of the open ones. Each that is
+         * enough has an element of each cut; so cuts that share none show how many more it takes at
+         * least, and of which rank it is at best.
          */
         private void explore(int chosen, int open, int more) {
             if (enough(chosen)) {
                 best = Math.min(best, Integer.bitCount(chosen & dear) << SAYINGS | chosen);
                 return;
             }
-            if (more <= 0 || !enough(chosen | open)) {
+            int cut = cutOf(chosen, open);
+            int taken = chosen;
+            int least = chosen;
+            int dears = Integer.bitCount(chosen & dear);
+            int cuts = 0;
+            for (int next = cut; next != 0 && cuts <= more; cuts++) {
+                taken |= next;
+                least |= next & -next;
+                dears += (next & ~dear) == 0 ? 1 : 0;
+                next = enough(taken) ? 0 : cutOf(taken, open & ~taken);
+            }
+            if (cut == 0 || cuts > more || (dears << SAYINGS | least) >= best) {
                 return;
             }
+            int left = open;
+            for (int e = 0; e < SAYINGS; e++) {
+                if ((cut >> e & 1) != 0) {
+                    left &= ~(1 << e);
+                    explore(chosen | 1 << e, left, more - 1);
+                }
+            }
+        }
+
+        /**
+         * The chosen ones are grown as far as they stay too few: each set of them and of open ones
+         * that is enough has one of those that were left out. 0: none is enough.
+         */
+        private int cutOf(int chosen, int open) {
             int grown = chosen;
             for (int e = 0; e < SAYINGS; e++) {
                 if ((open >> e & 1) != 0 && !enough(grown | 1 << e)) {
                     grown |= 1 << e;
                 }
             }
-            int left = open;
-            for (int e = 0; e < SAYINGS; e++) {
-                if ((open >> e & 1) != 0 && (grown >> e & 1) == 0) {
-                    left &= ~(1 << e);
-                    explore(chosen | 1 << e, left, more - 1);
-                }
-            }
+            return open & ~grown;
         }
 
         private boolean enough(int set) {
@@ -1330,7 +1373,7 @@ public final class SomeAreNoneIs {
             int size = fewestSorts(open);
             int taken = 0;
             for (int sort = 0; sort < SORTS && taken < size; sort++) {
-                int met = people.has(sort) ? theory.metBy(sort, open) : 0;
+                int met = people.has(sort) ? theory.metBy(sort) & open : 0;
                 if (met != 0 && fewestSorts(open & ~met) == size - taken - 1) {
                     chosen[taken] = sort;
                     taken++;
@@ -1340,7 +1383,7 @@ public final class SomeAreNoneIs {
             return taken;
         }
 
-        /** The first need shares its sort with some others, none of which are apart: the rest is fewer. */
+        /** The first need shares its sort with some others, no two of which are apart: the rest is fewer. */
         private int fewestSorts(int needs) {
             if (needs == 0) {
                 return 0;
@@ -1354,8 +1397,9 @@ public final class SomeAreNoneIs {
             }
             int others = needs & ~(1 << first);
             int mates = others & ~apart[first];
-            int best = 1 + fewestSorts(others);
-            for (int shared = mates; shared > 0; shared = shared - 1 & mates) {
+            int best = canAllShare(needs) ? 1 : 1 + fewestSorts(others);
+            // Needs that can't all share one sort take two at least: then there is no better.
+            for (int shared = mates; shared > 0 && best > 2; shared = shared - 1 & mates) {
                 if (canAllShare(shared)) {
                     best = Math.min(best, 1 + fewestSorts(others & ~shared));
                 }
@@ -1548,9 +1592,14 @@ public final class SomeAreNoneIs {
 
         private final Docket docket;
         private final int[] cost = new int[CODES];
+        /** Codes that can be proved, by the lengths of their proofs as far as these are settled. */
         private final int[] order = new int[CODES];
+        /** Of each form and x: the y (bits) of settled codes; of each form and y: the x. */
+        private final int[] predicates = new int[4 * TERMS];
+        private final int[] subjects = new int[4 * TERMS];
         /** Of each code that a traced proof uses: the longest way to it from its end; else NONE. */
         private final int[] below = new int[CODES];
+        private int reachedCodes;
         private int provedCodes;
         private int mostSteps;
         private int settledSayings = NONE;
@@ -1584,38 +1633,47 @@ public final class SomeAreNoneIs {
             for (int code = 0; code < CODES; code++) {
                 cost[code] = FAR;
             }
+            for (int i = 0; i < predicates.length; i++) {
+                predicates[i] = 0;
+                subjects[i] = 0;
+            }
+            reachedCodes = 0;
             for (int i = 0; i < docket.told; i++) {
                 if (docket.isActive(i)) {
-                    cost[docket.codes[i]] = 0;
+                    offer(docket.codes[i], 0);
                 }
             }
             provedCodes = 0;
             mostSteps = 0;
-            int level = 0;
-            for (int round = 0; round < CODES && level < FAR; round++) {
-                level = settleLevel(level);
+            // Each round settles one code at least.
+            for (int round = 0; round < CODES && provedCodes < reachedCodes; round++) {
+                settleShortest();
             }
         }
 
-        /** Each step makes a proof longer, so no proof of this length can get shorter: the next length. */
-        private int settleLevel(int level) {
-            for (int code = 0; code < CODES; code++) {
+        /** Each step makes a proof longer, so the shortest of those that wait can't get shorter. */
+        private void settleShortest() {
+            int level = FAR;
+            for (int i = provedCodes; i < reachedCodes; i++) {
+                level = Math.min(level, cost[order[i]]);
+            }
+            int start = provedCodes;
+            for (int i = start; i < reachedCodes; i++) {
+                int code = order[i];
                 if (cost[code] == level) {
+                    order[i] = order[provedCodes];
                     order[provedCodes] = code;
                     provedCodes++;
-                    mostSteps = level;
-                    useAlone(code, level);
-                    useFirst(code, level);
-                    useSecond(code, level);
+                    predicates[code / TERMS] |= 1 << Codes.predicate(code);
+                    subjects[TERMS * Codes.form(code) + Codes.predicate(code)] |= 1 << Codes.subject(code);
                 }
             }
-            int next = FAR;
-            for (int code = 0; code < CODES; code++) {
-                if (cost[code] > level) {
-                    next = Math.min(next, cost[code]);
-                }
+            mostSteps = level;
+            for (int i = start; i < provedCodes; i++) {
+                useAlone(order[i]);
+                useFirst(order[i]);
+                useSecond(order[i]);
             }
-            return next;
         }
 
         private boolean isAllowed(int mood) {
@@ -1623,50 +1681,62 @@ public final class SomeAreNoneIs {
         }
 
         private void offer(int code, int steps) {
-            if (steps < cost[code]) {
-                cost[code] = steps;
+            if (steps >= cost[code]) {
+                return;
             }
+            if (cost[code] == FAR && reachedCodes < CODES) {
+                order[reachedCodes] = code;
+                reachedCodes++;
+            }
+            cost[code] = steps;
         }
 
-        private void useAlone(int code, int level) {
+        private void useAlone(int code) {
             for (int mood = Moods.FIRST_SINGLE; mood < Moods.MOODS; mood++) {
                 int made = Moods.singleConclusion(mood, code);
                 if (made >= 0 && isAllowed(mood) && Moods.isAlive(mood, code, settledLiving)) {
-                    offer(made, level + 1);
+                    offer(made, cost[code] + 1);
                 }
             }
         }
 
-        private void useFirst(int code, int level) {
+        /** With each settled second premise whose conclusion is not settled yet. */
+        private void useFirst(int code) {
+            int form = Codes.form(code);
             for (int mood = 0; mood < Moods.FIRST_SINGLE; mood++) {
-                if (!isAllowed(mood) || Codes.form(code) != Moods.FIRSTS[mood]
-                        || !Moods.isAlive(mood, code, settledLiving)) {
+                if (form != Moods.FIRSTS[mood] || !isAllowed(mood) || !Moods.isAlive(mood, code, settledLiving)) {
                     continue;
                 }
                 int figure = Moods.FIGURES[mood];
                 int m = Moods.middleOfFirst(figure, code);
                 int p = Moods.majorOf(figure, code);
-                for (int s = 0; s < TERMS; s++) {
-                    int other = Moods.secondPremise(figure, Moods.SECONDS[mood], m, s);
-                    if (cost[other] <= level) {
-                        offer(Codes.make(Moods.THIRDS[mood], s, p), level + cost[other] + 1);
+                int[] partners = figure <= 2 ? subjects : predicates;
+                int minors = partners[TERMS * Moods.SECONDS[mood] + m] & ~subjects[TERMS * Moods.THIRDS[mood] + p];
+                for (int s = 0; s < TERMS && minors >> s != 0; s++) {
+                    if ((minors >> s & 1) != 0) {
+                        int second = Moods.secondPremise(figure, Moods.SECONDS[mood], m, s);
+                        offer(Codes.make(Moods.THIRDS[mood], s, p), cost[code] + cost[second] + 1);
                     }
                 }
             }
         }
 
-        private void useSecond(int code, int level) {
+        /** With each settled first premise whose conclusion is not settled yet. */
+        private void useSecond(int code) {
+            int form = Codes.form(code);
             for (int mood = 0; mood < Moods.FIRST_SINGLE; mood++) {
-                if (!isAllowed(mood) || Codes.form(code) != Moods.SECONDS[mood]) {
+                if (form != Moods.SECONDS[mood] || !isAllowed(mood)) {
                     continue;
                 }
                 int figure = Moods.FIGURES[mood];
                 int m = Moods.middleOfSecond(figure, code);
                 int s = Moods.minorOf(figure, code);
-                for (int p = 0; p < TERMS; p++) {
+                int[] partners = (figure & 1) != 0 ? predicates : subjects;
+                int majors = partners[TERMS * Moods.FIRSTS[mood] + m] & ~predicates[TERMS * Moods.THIRDS[mood] + s];
+                for (int p = 0; p < TERMS && majors >> p != 0; p++) {
                     int first = Moods.firstPremise(figure, Moods.FIRSTS[mood], m, p);
-                    if (cost[first] <= level && Moods.isAlive(mood, first, settledLiving)) {
-                        offer(Codes.make(Moods.THIRDS[mood], s, p), level + cost[first] + 1);
+                    if ((majors >> p & 1) != 0 && Moods.isAlive(mood, first, settledLiving)) {
+                        offer(Codes.make(Moods.THIRDS[mood], s, p), cost[first] + cost[code] + 1);
                     }
                 }
             }
