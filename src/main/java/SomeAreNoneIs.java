@@ -2,13 +2,14 @@ import java.util.NoSuchElementException;
 
 /**
  * A court in which nobody may say more than that all, no, some are or some are not, of twelve kinds
- * and of what is not of them. The promises that the comments name are those of the document.
+ * and of what is not of them. Its calls stand in the order of the document's promises; the classes
+ * inside it come behind them, each built on those ahead of it.
  */
 public final class SomeAreNoneIs {
     public static final int NONE = -1;
 
     private static final int NOTHING = -2;
-    private static final int REFUSED_SIZE = -3;
+    private static final int BEYOND = -3;
     private static final int KINDS = 12;
     private static final int TERMS = 24;
     private static final int CODES = 2304;
@@ -17,7 +18,7 @@ public final class SomeAreNoneIs {
     private static final int WITNESSES = 8;
     private static final int ALL_WITNESSES = 255;
     private static final int ALL_MOODS = 4194303;
-    /** A town of a refuted verdict is searched for with so many that must be somebody, and no more. */
+    /** Of I, O and kinds that live together no town is looked for with more. */
     private static final int MOST_NEEDS = 12;
     /** The longest row is a chain: each of its sayings leads to a term that it has not met before. */
     private static final int LONGEST_ROW = 24;
@@ -107,7 +108,7 @@ public final class SomeAreNoneIs {
         }
         if (kind == 3) {
             docket.living = 0;
-            return REFUSED_SIZE;
+            return BEYOND;
         }
         if (n < 0) {
             return NOTHING;
@@ -1118,7 +1119,8 @@ public final class SomeAreNoneIs {
         private static final int CLASH = 1;
         private static final int LIARS = 2;
         private static final int CONVICTS = 3;
-        private static final int NO_RANK = Integer.MAX_VALUE;
+        /** More than the rank of any set. */
+        private static final int NO_RANK = 1 << 24;
 
         private final Docket docket;
         private final Court court;
@@ -1161,6 +1163,9 @@ public final class SomeAreNoneIs {
         private void explore(int chosen, int open, int more) {
             if (enough(chosen)) {
                 best = Math.min(best, Integer.bitCount(chosen & dear) << SAYINGS | chosen);
+                return;
+            }
+            if (more <= 0) {
                 return;
             }
             int cut = cutOf(chosen, open);
@@ -1343,7 +1348,7 @@ public final class SomeAreNoneIs {
                 return NOTHING;
             }
             if (theory.held > MOST_NEEDS) {
-                return REFUSED_SIZE;
+                return BEYOND;
             }
             people.settle(active, extra);
             study(theory);
