@@ -335,7 +335,36 @@ public final class Promises {
         due("count(2)", 0, x.count(2));
     }
 
+    /** What all calls answer of as many sayings as there may be. */
+    private static void holdsOfSixteen() {
+        SomeAreNoneIs x = court("Aab@0;Abc@1;Acd@2;Ade@3;Aef@4;Afg@5;Agh@6;Ahi@7;Aij@0;Ajk@1;Akl@2", "Iaa@3;Oal@4?;Ela@5;Ibl@6;Aal@7");
+        due("count(5) of 16", 65535, x.count(5));
+        due("holds() of 16", 0, x.holds());
+        due("clash() of 16", 2, x.clash());
+        dueRow("clash() of 16: Oal, and Iaa, which is less than Ela", x, 1 << 12 | 1 << 11);
+        due("from(all of 16)", 1, x.from(65535, c("All")));
+        due("from(65536)", -1, x.from(65536, c("All")));
+        x.mark(12, 1, true);
+        x.mark(13, 1, true);
+        due("holds() of 14", 1, x.holds());
+        due("chain(a, l)", 1, x.chain(t("a"), t("l")));
+        dueRow("chain(a, l)", x, 15);
+        x.mark(15, 1, true);
+        due("chain(a, l) of 11", 11, x.chain(t("a"), t("l")));
+        dueRow("chain(a, l)", x, 0, 1, 2, 3, 4, 5, 6, 7, 8, 9, 10);
+        due("needs(Aal)", 2047, x.needs(c("Aal")));
+        due("proof(Aal)", 10, x.proof(c("Aal")));
+        due("rests(Aal)", 2047, x.rests(c("Aal")));
+        due("sorts()", 13, x.sorts());
+        due("town()", 1, x.town());
+        dueRow("town()", x, 4095);
+        due("judge(town)", 1, x.judge(4095, 4096, 4096));
+        due("idle()", 1 << 14, x.idle());
+        due("liars()", 0, x.liars());
+    }
+
     private static void holds() {
+        holdsOfSixteen();
         SomeAreNoneIs x = court("Aab@0;Eab@1");
         due("holds(): nobody need be a", 1, x.holds());
         x.lives(0, true);
@@ -429,6 +458,11 @@ public final class Promises {
         x.want(c("Afa"));
         due("fewest() with Afa", -2, x.fewest());
         dueRow("fewest() of -2", x, 44);
+        // Ida and Ebb make it 20; Ebc and Ibc can't both be, so that all follows, and are less.
+        SomeAreNoneIs y = court("A-cc@0;Ebc@7;Ida@7?;Ibc@1;Ebb@3");
+        y.want(c("Odb"));
+        due("fewest(): those met later are less", 2, y.fewest());
+        dueRow("fewest()", y, 10);
     }
 
     private static void idle() {
@@ -482,6 +516,12 @@ public final class Promises {
         y.lives(0, true);
         due("clash(): a lives", 1, y.clash());
         dueRow("clash()", y, 1);
+        SomeAreNoneIs z = court("Aaa@5;Oaa@7;A-ba@7?;Eab@0;Iba@6?;Oba@6?");
+        due("clash(): Oaa, and Iba before Eab, which is not doubted", 2, z.clash());
+        dueRow("clash()", z, 2 + 16);
+        z.mark(3, 0, true);
+        due("clash(): Oaa, and Eab, which is less", 2, z.clash());
+        dueRow("clash()", z, 2 + 8);
     }
 
     private static void liars() {
@@ -497,6 +537,10 @@ public final class Promises {
         SomeAreNoneIs y = court("Iab@0;Eab@1;Icd@2;Ecd@7");
         due("liars() of two", 2, y.liars());
         dueRow("liars()", y, 5);
+        // 5 says that nobody is b; of 0 and 4 one has to go as well.
+        SomeAreNoneIs z = court("Icb@1?;Obc@0?;E-cb@4?;Oa-b@4?;Ab-b@5?;Ec-c@0");
+        due("liars(): those met later are less", 2, z.liars());
+        dueRow("liars()", z, 1 + 32);
     }
 
     private static void truth() {
@@ -548,6 +592,10 @@ public final class Promises {
         due("convicts(-1)", -1, x.convicts(-1));
         due("convicts(2304)", -1, x.convicts(2304));
         dueRow("convicts() refused", x, 16);
+        // 3 and 5 can't both be right; 1 and 4 are less.
+        SomeAreNoneIs y = court("Aab@0?;Aac@5;Eba@1?;Oac@3;Icb@4");
+        due("convicts(Oca)", 2, y.convicts(c("Oca")));
+        dueRow("convicts(Oca): those met later are less", y, 2 + 16);
     }
 
     private static void all() {
@@ -578,6 +626,8 @@ public final class Promises {
         told(x, "Ad-d@0");
         due("empty(): nobody at all", (1 << 24) - 1, x.empty());
         due("empty() of nothing", 0, new SomeAreNoneIs().empty());
+        due("empty(): all are d, so all are e", terms("-d", "-e"), court("A-dd@0;Ade@0").empty());
+        due("empty() the other way", terms("d", "e"), court("Aed@0;Ad-d@0").empty());
     }
 
     private static void chain() {
@@ -624,6 +674,7 @@ public final class Promises {
         due("sorts() without Eab", 2304, x.sorts());
         told(x, "Ac-c@0;A-cc@0");
         due("sorts(): nobody", 0, x.sorts());
+        due("sorts(): all are d, so all are e", 1024, court("A-dd@0;Ade@0").sorts());
     }
 
     private static void sort() {
@@ -672,6 +723,7 @@ public final class Promises {
         due("town(): none", -2, x.town());
         dueRow("town() of -2", x, 7, 8);
         SomeAreNoneIs y = court("Aaa@0");
+        y.judge(0, 0, 0);
         due("town() of nobody", 0, y.town());
         dueRow("town()", y);
         y.sheet(2, 12, 1, 0);
@@ -738,6 +790,12 @@ public final class Promises {
         due("judge(0, -1, 0)", -1, x.judge(0, -1, 0));
         due("judge(0, 0, 4097)", -1, x.judge(0, 0, 4097));
         dueRow("judge() refused", x, 0, 4095 - 11 - 4 - 32);
+        SomeAreNoneIs y = court("I-a-b@0;A-ab@0");
+        y.lives(0, true);
+        due("judge(nobody): nobody is no -a either", 0, y.judge(4096, 4096, 4096));
+        dueRow("judge(nobody)", y, 1, 1);
+        due("judge(who is nothing)", 0, y.judge(4096, 0, 4096));
+        dueRow("judge(who is nothing)", y, 2, 1);
     }
 
     private static void mood() {
@@ -813,22 +871,23 @@ public final class Promises {
         due("count(3)", ALL_MOODS, x.count(3));
     }
 
+    /** Premises and conclusion of the moods 0 .. 18: s is a, m is b, p is c. */
+    private static final String[][] MOODS = {{"Abc", "Aab", "Aac"}, {"Ebc", "Aab", "Eac"}, {"Abc", "Iab", "Iac"},
+        {"Ebc", "Iab", "Oac"}, {"Ecb", "Aab", "Eac"}, {"Acb", "Eab", "Eac"}, {"Ecb", "Iab", "Oac"}, {"Acb", "Oab", "Oac"},
+        {"Ibc", "Aba", "Iac"}, {"Abc", "Iba", "Iac"}, {"Obc", "Aba", "Oac"}, {"Ebc", "Iba", "Oac"},
+        {"Acb", "Eba", "Eac"}, {"Icb", "Aba", "Iac"}, {"Ecb", "Iba", "Oac"},
+        {"Abc", "Aba", "Iac"}, {"Ebc", "Aba", "Oac"}, {"Ecb", "Aba", "Oac"}, {"Acb", "Aba", "Iac"}};
+
     private static void step() {
         SomeAreNoneIs x = new SomeAreNoneIs();
-        // s a, m b, p c; premises and conclusion of the moods 0 .. 14.
-        String[][] moods = {{"Abc", "Aab", "Aac"}, {"Ebc", "Aab", "Eac"}, {"Abc", "Iab", "Iac"}, {"Ebc", "Iab", "Oac"},
-            {"Ecb", "Aab", "Eac"}, {"Acb", "Eab", "Eac"}, {"Ecb", "Iab", "Oac"}, {"Acb", "Oab", "Oac"},
-            {"Ibc", "Aba", "Iac"}, {"Abc", "Iba", "Iac"}, {"Obc", "Aba", "Oac"}, {"Ebc", "Iba", "Oac"},
-            {"Acb", "Eba", "Eac"}, {"Icb", "Aba", "Iac"}, {"Ecb", "Iba", "Oac"},
-            {"Abc", "Aba", "Iac"}, {"Ebc", "Aba", "Oac"}, {"Ecb", "Aba", "Oac"}, {"Acb", "Aba", "Iac"}};
-        for (int mood = 0; mood < moods.length; mood++) {
-            String[] m = moods[mood];
+        for (int mood = 0; mood < MOODS.length; mood++) {
+            String[] m = MOODS[mood];
             due("step(" + mood + ", " + m[0] + ", " + m[1] + ")", mood < 15 ? c(m[2]) : -2, x.step(mood, c(m[0]), c(m[1])));
         }
         x.allow(0);
         x.sheet(2, 3, 1, 0);
-        for (int mood = 15; mood < moods.length; mood++) {
-            String[] m = moods[mood];
+        for (int mood = 15; mood < MOODS.length; mood++) {
+            String[] m = MOODS[mood];
             due("step(" + mood + "): a, b, c live", c(m[2]), x.step(mood, c(m[0]), c(m[1])));
             int need = mood == 18 ? 2 : 1;
             x.lives(need, false);
@@ -902,6 +961,41 @@ public final class Promises {
         x.mark(0, 1, true);
         due("proof(Aac) without Aab", -2, x.proof(c("Aac")));
         due("proof(Aaa): it follows, but from nothing", -2, x.proof(c("Aaa")));
+        SomeAreNoneIs y = court("Ea-a@0");
+        due("proof(Aaa) from Ea-a", 1, y.proof(c("Aaa")));
+        dueRow("proof(Aaa)", y, 20, c("Ea-a"), -1);
+        SomeAreNoneIs z = court("Aaa@0");
+        due("proof(Ea-a) from Aaa", 1, z.proof(c("Ea-a")));
+        dueRow("proof(Ea-a)", z, 20, c("Aaa"), -1);
+        proofByEachMood();
+    }
+
+    /** "Ea-b" for "Aab", and so on: by mood 20 each is proved from the other. */
+    private static String otherForm(String saying) {
+        return "" + "EAOI".charAt("AEIO".indexOf(saying.charAt(0))) + saying.charAt(1) + "-" + saying.charAt(2);
+    }
+
+    /** With none, the first, the second or both of its premises proved by mood 20. */
+    private static void proofByEachMood() {
+        for (int mood = 0; mood < MOODS.length; mood++) {
+            String[] m = MOODS[mood];
+            for (int which = 0; which < 4; which++) {
+                String first = (which & 1) == 0 ? m[0] : otherForm(m[0]);
+                String second = (which & 2) == 0 ? m[1] : otherForm(m[1]);
+                SomeAreNoneIs x = court(first + "@0;" + second + "@1");
+                x.allow(1 << mood | 1 << 20);
+                x.sheet(2, 3, 1, 0);
+                String call = "proof(" + m[2] + ") by " + mood + " from " + first + " and " + second;
+                due(call, 1 + Integer.bitCount(which), x.proof(c(m[2])));
+                dueRow(call, x, mood, c(m[0]), c(m[1]));
+                due(call + ", rests()", 3, x.rests(c(m[2])));
+                dueRow(call + ", rests()", x, which == 0 ? 1 << mood : 1 << mood | 1 << 20, which == 0 ? 1 : 2);
+                x.sheet(3, 0, 0, 0);
+                due(call + " if none lives", mood < 15 ? 1 + Integer.bitCount(which) : -2, x.proof(c(m[2])));
+                x.allow(1 << 20);
+                due(call + " without " + mood, -2, x.proof(c(m[2])));
+            }
+        }
     }
 
     private static void rests() {
@@ -959,6 +1053,8 @@ public final class Promises {
         due("gap() by mood 0", 1 + 8 + 16, x.gap());
         x.allow(0);
         due("gap() by nothing", 1 + 2 + 8 + 16, x.gap());
+        x.want(c("Abc"));
+        due("gap(): what is told is proved", 1 + 2 + 8 + 16, x.gap());
         x.mark(0, 1, true);
         due("gap() without Aab", 1 + 16, x.gap());
     }
@@ -1093,9 +1189,18 @@ public final class Promises {
         x.mark(0, 1, true);
         due("marks(1) without Aab", 1, x.marks(1));
         dueRow("marks(1) without Aab", x, 0, 1);
+        due("marks(3)", 0, x.marks(3));
+        dueRow("marks(3)", x, 0, 0);
+        x.marks(1);
         due("marks(4)", -1, x.marks(4));
         due("marks(-1)", -1, x.marks(-1));
         dueRow("marks() refused", x, 0, 1);
+        SomeAreNoneIs y = court("Eab@0;Aaa@0");
+        y.want(c("Eba"));
+        told(y, "Eba@0;x");
+        plead(y, "3:0Eba;3:16Eab;3:0Eba");
+        due("marks(3)", 3, y.marks(3));
+        dueRow("marks(3): Eba was not told in the end, and is wanted twice; Eab is saying 0, Eba step 0", y, 2, 2);
     }
 
     private static void strike() {
