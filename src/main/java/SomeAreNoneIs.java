@@ -36,15 +36,18 @@ public final class SomeAreNoneIs {
     private int numbersTold;
 
     public SomeAreNoneIs() {
+        Docket sayings = new Docket();
+        Court bench = new Court(sayings);
+        Sorts crowd = new Sorts(sayings);
         text = new Text();
-        docket = new Docket();
-        court = new Court(docket);
-        search = new Search(docket, court);
-        people = new Sorts(docket);
-        towns = new Towns(docket, court, people);
+        docket = sayings;
+        court = bench;
+        search = new Search(sayings, bench);
+        people = crowd;
+        towns = new Towns(sayings, bench, crowd);
         school = new Moods();
-        prover = new Proofs(docket);
-        bar = new Lawyers(docket);
+        prover = new Proofs(sayings);
+        bar = new Lawyers(sayings);
         numbers = new int[LONGEST_ROW];
         numbersTold = 0;
     }
@@ -943,6 +946,7 @@ public final class SomeAreNoneIs {
             this.docket = docket;
         }
 
+        /** Like against(), it spells out what Theory.add() does, so that calls stay eight deep. */
         Theory prepare(int sayings) {
             if (baseSayings == sayings && baseLiving == docket.living) {
                 return base;
