@@ -394,6 +394,8 @@ public final class Promises {
         due("follows(Aac) without Aab", 0, x.follows(c("Aac")));
         told(x, "Ead@3?");
         due("follows(Iee) from what can't be", 1, x.follows(c("Iee")));
+        due("follows(Aab) from A-b-a", 2, court("A-b-a@0").follows(c("Aab")));
+        due("follows(Aac) from A-b-a and Eb-c", 2, court("A-b-a@0;Eb-c@1").follows(c("Aac")));
     }
 
     private static void decided() {
@@ -474,6 +476,7 @@ public final class Promises {
         x.mark(1, 1, true);
         due("idle() without Abc", 16, x.idle());
         due("idle() of nothing", 0, new SomeAreNoneIs().idle());
+        due("idle(): the first one", 1, court("Aac@0;Aab@0;Abc@0").idle());
     }
 
     private static void alike() {
@@ -653,6 +656,9 @@ public final class Promises {
         SomeAreNoneIs y = court("Abc@0;Aac@0;Adb@0;Ada@0;Aae@0");
         due("chain(d, c): the least row", 2, y.chain(t("d"), t("c")));
         dueRow("chain(d, c)", y, 2, 0);
+        SomeAreNoneIs w = court("Aab@0;Abe@0;Abc@0;Aec@0");
+        due("chain(a, c): b and e are as near", 2, w.chain(t("a"), t("c")));
+        dueRow("chain(a, c)", w, 0, 2);
         SomeAreNoneIs z = court("Aa-a@0;Ab-b@0;Aab@0");
         due("chain(a, -b): all that nobody is", 2, z.chain(t("a"), t("-b")));
         dueRow("chain(a, -b)", z, 2, 1);
@@ -746,6 +752,18 @@ public final class Promises {
         dueRow("town() of three", x, 3, 12, 48 + 192);
         SomeAreNoneIs y = court("Ia-a@0");
         due("town() of who is what he is not", -2, y.town());
+        SomeAreNoneIs z = court("Ebc@0");
+        z.sheet(2, 3, 1, 0);
+        due("town(): a goes with c", 2, z.town());
+        dueRow("town()", z, 2, 5);
+        SomeAreNoneIs ring = court("Eab@0;Ebc@0;Ecd@0;Ede@0;Eea@0");
+        ring.sheet(2, 5, 1, 0);
+        due("town() of a ring of five", 3, ring.town());
+        dueRow("town(): a; b, d; c, e", ring, 1, 10, 20);
+        // Of the ring without e: a goes with c, b with d; the least is a with c.
+        ring.lives(4, false);
+        due("town() of four of the ring", 2, ring.town());
+        dueRow("town(): a, c; b, d", ring, 5, 10);
     }
 
     private static void refute() {
@@ -787,7 +805,10 @@ public final class Promises {
         due("judge(a b d; c; f)", 0, x.judge(11, 4, 32));
         dueRow("judge(a b d; c; f)", x, 0, 4095 - 11 - 4 - 32);
         due("judge(4097, 0, 0)", -1, x.judge(4097, 0, 0));
+        due("judge(-1, 0, 0)", -1, x.judge(-1, 0, 0));
         due("judge(0, -1, 0)", -1, x.judge(0, -1, 0));
+        due("judge(0, 4097, 0)", -1, x.judge(0, 4097, 0));
+        due("judge(0, 0, -1)", -1, x.judge(0, 0, -1));
         due("judge(0, 0, 4097)", -1, x.judge(0, 0, 4097));
         dueRow("judge() refused", x, 0, 4095 - 11 - 4 - 32);
         SomeAreNoneIs y = court("I-a-b@0;A-ab@0");
@@ -978,24 +999,32 @@ public final class Promises {
     /** With none, the first, the second or both of its premises proved by mood 20. */
     private static void proofByEachMood() {
         for (int mood = 0; mood < MOODS.length; mood++) {
-            String[] m = MOODS[mood];
-            for (int which = 0; which < 4; which++) {
-                String first = (which & 1) == 0 ? m[0] : otherForm(m[0]);
-                String second = (which & 2) == 0 ? m[1] : otherForm(m[1]);
-                SomeAreNoneIs x = court(first + "@0;" + second + "@1");
-                x.allow(1 << mood | 1 << 20);
-                x.sheet(2, 3, 1, 0);
-                String call = "proof(" + m[2] + ") by " + mood + " from " + first + " and " + second;
-                due(call, 1 + Integer.bitCount(which), x.proof(c(m[2])));
-                dueRow(call, x, mood, c(m[0]), c(m[1]));
-                due(call + ", rests()", 3, x.rests(c(m[2])));
-                dueRow(call + ", rests()", x, which == 0 ? 1 << mood : 1 << mood | 1 << 20, which == 0 ? 1 : 2);
-                x.sheet(3, 0, 0, 0);
-                due(call + " if none lives", mood < 15 ? 1 + Integer.bitCount(which) : -2, x.proof(c(m[2])));
-                x.allow(1 << 20);
-                due(call + " without " + mood, -2, x.proof(c(m[2])));
+            for (int which = 0; which < 12; which++) {
+                proofByMood(mood, which & 3, MOODS[mood], new String[] {"abc", "cba", "bac"}[which / 4]);
             }
         }
+    }
+
+    private static String renamed(String saying, String names) {
+        return "" + saying.charAt(0) + names.charAt(saying.charAt(1) - 'a') + names.charAt(saying.charAt(2) - 'a');
+    }
+
+    private static void proofByMood(int mood, int which, String[] letters, String names) {
+        String[] m = {renamed(letters[0], names), renamed(letters[1], names), renamed(letters[2], names)};
+        String first = (which & 1) == 0 ? m[0] : otherForm(m[0]);
+        String second = (which & 2) == 0 ? m[1] : otherForm(m[1]);
+        SomeAreNoneIs x = court(first + "@0;" + second + "@1");
+        x.allow(1 << mood | 1 << 20);
+        x.sheet(2, 3, 1, 0);
+        String call = "proof(" + m[2] + ") by " + mood + " from " + first + " and " + second;
+        due(call, 1 + Integer.bitCount(which), x.proof(c(m[2])));
+        dueRow(call, x, mood, c(m[0]), c(m[1]));
+        due(call + ", rests()", 3, x.rests(c(m[2])));
+        dueRow(call + ", rests()", x, which == 0 ? 1 << mood : 1 << mood | 1 << 20, which == 0 ? 1 : 2);
+        x.sheet(3, 0, 0, 0);
+        due(call + " if none lives", mood < 15 ? 1 + Integer.bitCount(which) : -2, x.proof(c(m[2])));
+        x.allow(1 << 20);
+        due(call + " without " + mood, -2, x.proof(c(m[2])));
     }
 
     private static void rests() {
@@ -1014,6 +1043,17 @@ public final class Promises {
         due("rests(-1)", -1, x.rests(-1));
         due("rests(2304)", -1, x.rests(2304));
         dueRow("rests() refused", x, 1, 1);
+        SomeAreNoneIs y = court("Aaa@0;Iab@0");
+        due("rests(Iba) by mood 9, ahead of 19", 3, y.rests(c("Iba")));
+        dueRow("rests(Iba)", y, 1 << 9, 1);
+        y.allow(1 << 19 | 1 << 20);
+        due("rests(Ea-a)", 1, y.rests(c("Ea-a")));
+        dueRow("rests(Ea-a)", y, 1 << 20, 1);
+        due("rests(Iba): what was looked at before does not count", 2, y.rests(c("Iba")));
+        dueRow("rests(Iba)", y, 1 << 19, 1);
+        y.mark(0, 1, true);
+        y.allow(1 << 19);
+        due("rests(Iba), which is proved last", 2, y.rests(c("Iba")));
     }
 
     private static void proved() {
@@ -1038,6 +1078,13 @@ public final class Promises {
         y.allow(1);
         due("proved() of a chain", 6, y.proved());
         dueRow("proved()", y, 2);
+        // Abc, and Aac, Adc, Aec with it; of all but Eb-c, which is told, the other forms.
+        SomeAreNoneIs z = court("Aab@0;Adb@0;Aeb@0;Eb-c@0");
+        z.allow(1 | 1 << 20);
+        due("proved() with a premise that comes later", 14, z.proved());
+        dueRow("proved()", z, 3);
+        due("proof(Aac)", 2, z.proof(c("Aac")));
+        due("proof(Adc)", 2, z.proof(c("Adc")));
     }
 
     private static void gap() {
@@ -1107,6 +1154,8 @@ public final class Promises {
         due("plead() by no mood", -104, plead(x, "0:1+0Eac"));
         due("plead() of one, other terms", -103, plead(x, "0:0Aac"));
         due("plead() of one, -x", -103, plead(x, "0:0E-ab"));
+        due("plead() of one, turned but for its second", -103, plead(x, "0:0Abc"));
+        due("plead() of one, turned but for its first", -103, plead(x, "0:0Aca"));
         due("plead() of one, turned", -104, plead(x, "0:0Aba"));
         due("plead() of one, by no mood", -104, plead(x, "0:0Aa-b"));
         due("plead() of one, the same", -104, plead(x, "0:0Aab"));
@@ -1201,6 +1250,9 @@ public final class Promises {
         plead(y, "3:0Eba;3:16Eab;3:0Eba");
         due("marks(3)", 3, y.marks(3));
         dueRow("marks(3): Eba was not told in the end, and is wanted twice; Eab is saying 0, Eba step 0", y, 2, 2);
+        y.forget();
+        y.marks(3);
+        dueRow("marks(3): nothing is wanted any more", y, 0, 2);
     }
 
     private static void strike() {
