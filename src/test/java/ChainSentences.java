@@ -13,6 +13,8 @@ public final class ChainSentences extends Bench {
         x.mark(2, 0, true);
         due("all(a), one DOUBTED", terms("a", "l"), x.all(t("a")));
         idleCall("all(a)", Bench::busy, terms("a", "b", "c"), y -> y.all(t("a")));
+        due("all(a): all b are c, and no a is", terms("a", "-c", "-b"), court("Eac@0;Abc@1").all(t("a")));
+        due("all(-l): what is not l is no k, and j is k", terms("-l", "-k", "-j"), court("Akl@0;Ajk@1").all(t("-l")));
     }
 
     @Says(promise = 24, words = "by A and E alone")

@@ -73,6 +73,18 @@ public final class FollowsSentences extends Bench {
         due("follows(All): from nothing at all", 2, y.follows(c("All")));
     }
 
+    @Says(promise = 12, words = "1, if a SAYING FOLLOWS;")
+    static void p12OfSixteenIAndOAndAllKinds() {
+        SomeAreNoneIs x = court(lines("Iab@0", 12), lines("Oac@0", 4));
+        x.sheet(2, 12, 1, 0);
+        due("holds()", 1, x.holds());
+        due("follows(Aaa): its contrary is one more", 2, x.follows(c("Aaa")));
+        due("follows(Oac)", 2, x.follows(c("Oac")));
+        due("follows(Icc)", 2, x.follows(c("Icc")));
+        due("follows(Iac)", 0, x.follows(c("Iac")));
+        due("decided(Ell)", 2, x.decided(c("Ell")));
+    }
+
     @Says(promise = 12, words = "NONE: none such.")
     static void p12NoSuchCodeFollows() {
         dueOfCodes("follows", SomeAreNoneIs::new, 2, 0, (x, code) -> x.follows(code));

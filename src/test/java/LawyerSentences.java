@@ -478,6 +478,10 @@ public final class LawyerSentences extends Bench {
         due("marks(0)", 0, x.marks(0));
         due("marks(2)", 0, x.marks(2));
         dueRowAlone("marks(1)", 1, y -> y.marks(1), 1, 0);
+        SomeAreNoneIs turned = court("Eab@0;Akk@0;Edc@7");
+        plead(turned, "0:0Eba;0:16Eab;0:2Ecd;0:18Edc");
+        due("marks(0): turned to and fro", 4, turned.marks(0));
+        dueRow("marks(0): Eab is the first SAYING, Edc the last", turned, 0, 2);
     }
 
     @Says(promise = 45, words = "how many have the CODE of a SAYING, or of a STEP ahead of them.")

@@ -306,6 +306,44 @@ public final class MoodSentences extends Bench {
         dueRowAlone("proof(Aac)", 1, y -> y.proof(c("Aac")), 0, c("Abc"), c("Aab"));
     }
 
+    @Says(promise = 38, words = "from SAYINGS that are not WITHDRAWN by ALLOWED MOODS: how many steps")
+    static void p38WhatWasProvedBeforeDoesNotCount() {
+        SomeAreNoneIs x = court("Aab@0;Abc@1");
+        due("proof(Aac)", 1, x.proof(c("Aac")));
+        x.mark(0, 1, true);
+        due("proof(Aac), one WITHDRAWN", -2, x.proof(c("Aac")));
+        x.mark(0, 1, false);
+        due("proof(Aac), no more", 1, x.proof(c("Aac")));
+        dueRow("proof(Aac), no more", x, 0, c("Abc"), c("Aab"));
+        due("proof(Iab): nobody lives", -2, x.proof(c("Iab")));
+        x.lives(0, true);
+        due("proof(Iab): a lives", 1, x.proof(c("Iab")));
+        x.lives(0, false);
+        due("proof(Iab): a lives no more", -2, x.proof(c("Iab")));
+        x.allow(0);
+        due("proof(Aac): none is ALLOWED", -2, x.proof(c("Aac")));
+        x.allow(1);
+        due("proof(Aac): mood 0 is ALLOWED", 1, x.proof(c("Aac")));
+        told(x, "Aac@2");
+        due("proof(Aac): told", 0, x.proof(c("Aac")));
+    }
+
+    @Says(promise = 38, words = "how many steps")
+    static void p38TheFirstCodeAndTheLastAreProved() {
+        SomeAreNoneIs first = court("Ea-a@0");
+        due("proof(Aaa)", 1, first.proof(FIRST_CODE));
+        dueRow("proof(Aaa)", first, 20, c("Ea-a"), -1);
+        SomeAreNoneIs from = court("Aaa@0");
+        due("proof(Ea-a)", 1, from.proof(c("Ea-a")));
+        dueRow("proof(Ea-a)", from, 20, FIRST_CODE, -1);
+        SomeAreNoneIs last = court("I-ll@0");
+        due("proof(O-l-l)", 1, last.proof(LAST_CODE));
+        dueRow("proof(O-l-l)", last, 20, c("I-ll"), -1);
+        SomeAreNoneIs fromLast = court("O-l-l@0");
+        due("proof(I-ll)", 1, fromLast.proof(c("I-ll")));
+        dueRow("proof(I-ll)", fromLast, 20, LAST_CODE, -1);
+    }
+
     @Says(promise = 38, words = "(each that is used twice is counted twice;")
     static void p38WhatIsUsedTwiceIsCountedTwice() {
         SomeAreNoneIs x = court("Eb-a@0");
@@ -396,6 +434,16 @@ public final class MoodSentences extends Bench {
         dueRowAlone("rests(Aac)", 3, y -> y.rests(c("Aac")), 1, 1);
     }
 
+    @Says(promise = 39, words = "how deep it is (0: told; else 1 more than the deeper premise).")
+    static void p39OneMoreThanTheDeeperPremise() {
+        String[][] cases = {{"Abc@0;Ea-b@1", "the second"}, {"Eb-c@0;Aab@1", "the first"}, {"Eb-c@0;Ea-b@1", "neither"}};
+        for (String[] one : cases) {
+            SomeAreNoneIs x = court(one[0]);
+            due("rests(Aac)", 3, x.rests(c("Aac")));
+            dueRow("rests(Aac), deeper: " + one[1], x, 1 | 1 << 20, 2);
+        }
+    }
+
     @Says(promise = 39, words = "of SAYINGS with one CODE the first not WITHDRAWN);")
     static void p39OfOneCodeTheFirstNotWithdrawn() {
         SomeAreNoneIs x = court(lines("Aab@0", 12), lines("Aab@0", 4));
@@ -436,6 +484,15 @@ public final class MoodSentences extends Bench {
             x.mark(i, 1, true);
         }
         due("proved(), all Aab WITHDRAWN", 1, x.proved());
+        dueRow("proved(), all Aab WITHDRAWN", x, 0);
+        x.allow(1 << 20);
+        due("proved() by 20", 2, x.proved());
+        dueRow("proved() by 20", x, 1);
+        for (int i = 12; i < 16; i++) {
+            x.mark(i, 1, true);
+        }
+        due("proved(), all WITHDRAWN", 0, x.proved());
+        dueRow("proved(), all WITHDRAWN", x, 0);
         SomeAreNoneIs chain = court("Aab@0;Abc@1;Acd@2;Ade@3;Aef@4;Afg@5;Agh@6;Ahi@7;Aij@0;Ajk@1;Akl@2");
         chain.allow(1);
         due("proved() of a chain of twelve", 66, chain.proved());

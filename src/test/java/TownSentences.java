@@ -120,6 +120,11 @@ public final class TownSentences extends Bench {
         six.sheet(2, 12, 1, 0);
         due("town() of six for twelve", 6, six.town());
         dueRow("town(): the last has all others", six, 1, 2, 4, 8, 16, 4095 - 31);
+        for (int i = 0; i < 15; i++) {
+            six.mark(i, 1, true);
+        }
+        due("town() of twelve, all WITHDRAWN", 1, six.town());
+        dueRow("town() of twelve, all WITHDRAWN", six, 4095);
         SomeAreNoneIs sortZero = court("I-a-l@0;Iaa@0");
         due("town(): one is of nothing", 2, sortZero.town());
         dueRow("town(): one is of nothing", sortZero, 0, 1);
