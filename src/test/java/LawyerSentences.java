@@ -201,7 +201,7 @@ public final class LawyerSentences extends Bench {
         duePlea(() -> steps(24), -7, "0:0Ebax");
     }
 
-    @Says(promise = 42, words = {"else -100 - 10 k - why: LINE number k (0 ..) does not follow:", "Nothing is written down then."})
+    @Says(promise = 42, words = "else -100 - 10 k - why: LINE number k (0 ..) does not follow:")
     static void p42TheFirstLineThatDoesNotFollow() {
         for (int k = 0; k < 11; k++) {
             String[] all = ELEVEN.split(";");
@@ -212,6 +212,29 @@ public final class LawyerSentences extends Bench {
         }
         duePlea(() -> steps(0), -114, "0:0Eba;0:0Oba;0:2Eba");
         duePlea(() -> steps(0), -111, "0:0Eba;0:2Eba;0:0Oba");
+    }
+
+    @Says(promise = 42, words = "Nothing is written down then.")
+    static void p42NothingIsWrittenDownThen() {
+        String[] texts = {"0:0Eba;0:2Eba", "0:0Eba;0:0Ekl", "0:0Eba;0:0Oba", "0:0Eba;0:1Iab", "0:0Eba;x"};
+        int[] answers = {-111, -113, -114, -116, -8};
+        for (int i = 0; i < texts.length; i++) {
+            for (int before : new int[] {0, 1, 22}) {
+                SomeAreNoneIs x = steps(before);
+                due("plead() of " + texts[i], answers[i], plead(x, texts[i]));
+                due("STEPS behind it", before, x.count(4));
+                dueNone("pleaded() of its first LINE", x, y -> y.pleaded(before, 0));
+                due("plead() of the number it would have", -101, plead(x, "0:" + (16 + before) + "Eab"));
+                dueSame("plead() of " + texts[i], x, steps(before));
+            }
+        }
+        SomeAreNoneIs none = steps(1);
+        none.allow(0);
+        due("plead() if none is ALLOWED", -105, plead(none, "0:0Eba"));
+        due("STEPS behind it", 1, none.count(4));
+        SomeAreNoneIs full = steps(23);
+        due("plead() of two where there is room for one", -112, plead(full, "0:0Eba;0:0Eba"));
+        due("STEPS behind it", 23, full.count(4));
     }
 
     @Says(promise = 42, words = {"why 1: a number is of none,", "(in this order)."})

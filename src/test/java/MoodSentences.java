@@ -51,7 +51,7 @@ public final class MoodSentences extends Bench {
     }
 
     @Says(promise = 33, words = {"A mood of three FORMS and a FIGURE (1 .. 4): 2: it holds of all TOWNS, 1: if some of s, m, p are not empty, 0: not; "
-        + "the ROW: for 1 the fewest that must not be (bits: 1 s, 2 m, 4 p; of as few the least);", "For 2 the ROW is empty."})
+        + "the ROW: for 1 the fewest that must not be (bits: 1 s, 2 m, 4 p; of as few the least);"})
     static void p33AllMoods() {
         SomeAreNoneIs x = new SomeAreNoneIs();
         int asked = 0;
@@ -73,8 +73,22 @@ public final class MoodSentences extends Bench {
                 due(call + ", numbers of the ROW", 1, x.count(6));
             }
         }
-        dueRowAlone("mood(AAA, 1)", 2, y -> y.mood(0, 0, 0, 1));
         dueRowAlone("mood(AAI, 1)", 1, y -> y.mood(0, 0, 2, 1), 1);
+    }
+
+    @Says(promise = 33, words = "For 2 the ROW is empty.")
+    static void p33For2TheRowIsEmpty() {
+        SomeAreNoneIs x = new SomeAreNoneIs();
+        x.judge(0, 0, 0);
+        due("mood(AAA, 1)", 2, x.mood(0, 0, 0, 1));
+        dueRow("mood(AAA, 1)", x);
+        x.mood(0, 0, 2, 1);
+        dueRow("mood(AAI, 1): 1", x, 1);
+        due("mood(EIO, 4)", 2, x.mood(1, 2, 3, 4));
+        dueRow("mood(EIO, 4)", x);
+        x.mood(0, 0, 0, 2);
+        dueRow("mood(AAA, 2): 0", x, 1);
+        dueRowAlone("mood(AAA, 1)", 2, y -> y.mood(0, 0, 0, 1));
     }
 
     private static boolean isOfAll(int form, boolean second) {

@@ -68,13 +68,22 @@ public final class TermSentences extends Bench {
         dueRow("judge()", x, 2, 0);
     }
 
-    @Says(promise = 0, words = {"A SAYING: a FORM and two TERMS: 0 (A) all x are y; 1 (E) no x is y; 2 (I) some x are y; 3 (O) some x are not y.",
-        "It is true of a TOWN as it says: A and E also if there is no x in it, I and O if there is such a SORT in it."})
-    static void p00FormsAreTrueAsTheySay() {
+    @Says(promise = 0, words = "A SAYING: a FORM and two TERMS: 0 (A) all x are y; 1 (E) no x is y; 2 (I) some x are y; 3 (O) some x are not y.")
+    static void p00FormsAre0To3() {
         SomeAreNoneIs x = court("Aab@0;Eab@0;Iab@0;Oab@0");
         for (int form = 0; form < 4; form++) {
             due("saying(" + form + ", 0)", 576 * form + 2, x.saying(form, 0));
         }
+        due("told() of another FORM, ahead of A", -1, told(x, "@ab@0"));
+        due("told() of another FORM, behind O", -1, told(x, "Pab@0"));
+        due("mood() of FORM 3", 2, x.mood(3, 0, 3, 3));
+        due("mood() of FORM 4", -1, x.mood(4, 0, 3, 3));
+        due("mood() of FORM -1", -1, x.mood(-1, 0, 3, 3));
+    }
+
+    @Says(promise = 0, words = "It is true of a TOWN as it says: A and E also if there is no x in it, I and O if there is such a SORT in it.")
+    static void p00FormsAreTrueAsTheySay() {
+        SomeAreNoneIs x = court("Aab@0;Eab@0;Iab@0;Oab@0");
         x.judge(NOBODY, NOBODY, NOBODY);
         dueRow("judge(nobody): I and O are false", x, 12, 0);
         x.judge(s("b"), NOBODY, NOBODY);
@@ -85,8 +94,6 @@ public final class TermSentences extends Bench {
         dueRow("judge(a)", x, 1 + 4, 0);
         x.judge(s("a"), s("ab"), NOBODY);
         dueRow("judge(a; ab)", x, 1 + 2, 0);
-        due("told() of another FORM, ahead of A", -1, told(x, "@ab@0"));
-        due("told() of another FORM, behind O", -1, told(x, "Pab@0"));
     }
 
     @Says(promise = 0, words = "SAYINGS 0 .. (at most 16): by a WITNESS 0 .. 7, DOUBTED or not, WITHDRAWN or not.")
