@@ -120,7 +120,7 @@ public final class SomeAreNoneIs {
         return Integer.bitCount(docket.living);
     }
 
-    // ---- what follows
+    // ---- what follows (from SAYINGS that are not WITHDRAWN)
 
     public int holds() {
         return court.consistent(docket.active()) ? 1 : 0;

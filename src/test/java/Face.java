@@ -6,11 +6,15 @@ import java.lang.reflect.Method;
 import java.lang.reflect.Modifier;
 import java.nio.file.Files;
 import java.nio.file.Path;
+import java.util.ArrayList;
 import java.util.Arrays;
+import java.util.List;
 import java.util.NoSuchElementException;
 import java.util.Random;
 import java.util.Set;
 import java.util.TreeSet;
+import java.util.regex.Matcher;
+import java.util.regex.Pattern;
 
 /**
  * The document's face and no other, what LANGUAGE.md rules out and can be seen from outside, and calls with wild
@@ -109,6 +113,25 @@ public final class Face {
         lookAtLengths(source.split("\n"));
     }
 
+    /** "Ahead of the calls .. the interface says: ---- ..": so it does, in the document's order, and of no other call. */
+    private static void lookAtTheHeadings() throws IOException {
+        List<String> wanted = new ArrayList<>();
+        Matcher says = Pattern.compile("Ahead of the calls (.*) the interface says: (---- .*)\\.")
+            .matcher(Files.readString(Path.of("../shared/DOC.md")));
+        while (says.find()) {
+            wanted.add(says.group(2));
+            wanted.addAll(Arrays.asList(says.group(1).replace("`", "").split(", ")));
+        }
+        List<String> found = new ArrayList<>();
+        Matcher stands = Pattern.compile("(?m)^    // (---- .*)$|^    public (?:int|boolean) (\\w+)\\(")
+            .matcher(Files.readString(Path.of("src/main/java/SomeAreNoneIs.java")));
+        while (stands.find()) {
+            found.add(stands.group(1) != null ? stands.group(1) : stands.group(2));
+        }
+        check("the document has headings", wanted.size() > METHODS.length);
+        check("what stands ahead of the calls: " + found + ", in the document: " + wanted, found.equals(wanted));
+    }
+
     /** From a line that opens a method to the line that closes it, by their indents. */
     private static void lookAtLengths(String[] lines) {
         for (int i = 0; i < lines.length; i++) {
@@ -180,6 +203,7 @@ public final class Face {
     public static void main(String[] args) throws IOException, IllegalAccessException {
         lookAtTheFace();
         lookAtTheSource();
+        lookAtTheHeadings();
         callWildly();
         System.out.println(wrong == 0 ? "the face is the document's" : wrong + " faults of the face");
         if (wrong != 0) {
